@@ -267,6 +267,30 @@ public final class ModelTest {
         due("later", x.later(by), time);
     }
 
+    /** Ways are closed till the last day is near: then biers are still on their ways on it. */
+    private static void waitLong(Random r) {
+        int days = 250 + r.nextInt(60);
+        for (int w = 0; w < m.ways.size(); w++) {
+            act();
+            m.closed[w] = true;
+            due("close", x.close(w), 1);
+        }
+        for (int i = 0; i < days; i++) {
+            if (m.day < 300) {
+                act();
+                due("day", x.day(), m.goBy());
+            } else {
+                due("day", x.day(), -1);
+            }
+        }
+        for (int w = 0; w < m.ways.size(); w++) {
+            act();
+            m.closed[w] = false;
+            due("close", x.close(w), 0);
+        }
+        compareState();
+    }
+
     private static void run(int seed) {
         Random r = new Random(seed);
         m = RandomLand.of(r);
@@ -280,6 +304,9 @@ public final class ModelTest {
         x = new FuneralPost();
         Check.due(label + "land", Check.land(x, text), m.toldLetters.size());
         compareState();
+        if (seed % 8 == 0) {
+            waitLong(r);
+        }
         for (int i = 0; i < 25; i++) {
             doOne(r);
             compareState();

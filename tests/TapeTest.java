@@ -93,6 +93,38 @@ public final class TapeTest {
         Check.due("nothing to do again", x.redo(), false);
     }
 
+    /** What an earlier text told, a good or a bad one, is not told by a later one. */
+    private static void nothingIsLeftOfEarlierLands() {
+        FuneralPost x = new FuneralPost();
+        String start = TWO + "way a b 1;bier x from a to b on 0;letter p at a to b;";
+        Check.due("land", Check.land(x, start + "wait 1+2;winter 0 to 100;"), 1);
+        Check.days(x, 2);
+        Check.due("bad", Check.land(x, start + "bier y from a to b on 0;wait 1+2+3;winter 0 to 50"), -1);
+        Check.due("land", Check.land(x, start), 1);
+        for (int i = 0; i < 3; i++) {
+            Check.due("about(12)", x.about(12), 0);
+            Check.due("about(3)", x.about(3), 1);
+            Check.due("bier(0, 0)", x.bier(0, 0), 0);
+            Check.due("bier(0, 1)", x.bier(0, 1), 0);
+            Check.due("bier(0, 3)", x.bier(0, 3), 0);
+            Check.due("letter(0, 6)", x.letter(0, 6), 0);
+            Check.due("letter(0, 2)", x.letter(0, 2), -1);
+            Check.due("comes(0)", x.comes(0), 1);
+            x.close(0);
+            x.undo();
+            x.close(0);
+            Check.due("land", Check.land(x, start), 1);
+            Check.due("far(0, 1)", x.far(0, 1), 1);
+            Check.days(x, 2);
+            Check.due("land", Check.land(x, start), 1);
+        }
+        for (int wait = 1; wait < 5; wait++) {
+            Check.due("land", Check.land(x, start + "winter 90 to 99;wait " + wait + ";"), 1);
+            Check.due("about(12)", x.about(12), 1);
+            Check.due("comes(0)", x.comes(0), 1 + wait);
+        }
+    }
+
     private static void faultAnswersOfTheLatest() {
         FuneralPost x = new FuneralPost();
         Check.land(x, "village a;;");
@@ -292,6 +324,7 @@ public final class TapeTest {
         endCutsTheTape();
         landTellsHowManyLetters();
         landBeginsAnew();
+        nothingIsLeftOfEarlierLands();
         faultAnswersOfTheLatest();
         tokens();
         names();

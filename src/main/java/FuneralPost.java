@@ -538,14 +538,11 @@ public final class FuneralPost {
         course.roads.lay(told, now.closed);
     }
 
-    /** The villages that the rests of these biers pass; all, if one of them does not stand, is no answer: then none. */
+    /* A bier that does not stand passes nothing, so it is never among the fewest. */
     private int passedBy(int biers) {
         int set = 0;
         for (int b = 0; b < told.biers; b++) {
             if ((biers >> b & 1) == 1) {
-                if (now.bierState[b] != State.STANDING) {
-                    return 0;
-                }
                 set |= course.restOf(now, b);
             }
         }
@@ -865,7 +862,8 @@ public final class FuneralPost {
             int second = at;
             int to = readVillage(from);
             if (fault == 0 && land.hasWay(from, to)) {
-                failAt(TOLD_ALREADY, second);
+                at = second;
+                fail(TOLD_ALREADY);
             }
             int days = readNumber(1, 9);
             if (fault == 0) {
@@ -1036,13 +1034,9 @@ public final class FuneralPost {
         }
 
         private void fail(int what) {
-            failAt(what, at);
-        }
-
-        private void failAt(int what, int token) {
             if (fault == 0) {
-                fault = tokens.kindAt(token) == Tokens.BAD ? NO_TOKEN : what;
-                place = tokens.placeAt(token);
+                fault = tokens.kindAt(at) == Tokens.BAD ? NO_TOKEN : what;
+                place = tokens.placeAt(at);
             }
         }
     }
@@ -1065,7 +1059,8 @@ public final class FuneralPost {
         final int[] letterLast = new int[MOST_TOLD_LETTERS];
         final int[] letterWorth = new int[MOST_TOLD_LETTERS];
         int winterFirst;
-        int winterLast;
+        /* Ahead of the first day while no winter is told. */
+        int winterLast = NONE;
         final Formula wait = new Formula();
 
         void clear() {
@@ -1076,10 +1071,6 @@ public final class FuneralPost {
             winterFirst = 0;
             winterLast = NONE;
             wait.clear();
-        }
-
-        Land() {
-            winterLast = NONE;
         }
 
         boolean hasWay(int village, int other) {
@@ -1188,7 +1179,7 @@ public final class FuneralPost {
                         break;
                     case Tokens.NOT:
                         if (top > 0) {
-                            stack[top - 1] = truth(stack[top - 1] == 0);
+                            stack[top - 1] = stack[top - 1] == 0 ? 1 : 0;
                         }
                         break;
                     default:
@@ -1215,15 +1206,15 @@ public final class FuneralPost {
         private static int join(int operator, int left, int right) {
             switch (operator) {
                 case Tokens.OR:
-                    return truth(left != 0 || right != 0);
+                    return left != 0 || right != 0 ? 1 : 0;
                 case Tokens.AND:
-                    return truth(left != 0 && right != 0);
+                    return left != 0 && right != 0 ? 1 : 0;
                 case Tokens.LESS:
-                    return truth(left < right);
+                    return left < right ? 1 : 0;
                 case Tokens.MORE:
-                    return truth(left > right);
+                    return left > right ? 1 : 0;
                 case Tokens.SAME:
-                    return truth(left == right);
+                    return left == right ? 1 : 0;
                 case Tokens.PLUS:
                     return left + right;
                 case Tokens.MINUS:
@@ -1235,10 +1226,6 @@ public final class FuneralPost {
                 default:
                     return right == 0 ? 0 : left % right;
             }
-        }
-
-        private static int truth(boolean is) {
-            return is ? 1 : 0;
         }
     }
 
@@ -1274,7 +1261,7 @@ public final class FuneralPost {
         }
 
         int distance(int village, int other) {
-            boolean known = isOneOf(village, MOST_VILLAGES) && isOneOf(other, MOST_VILLAGES);
+            boolean known = village >= 0 && village < MOST_VILLAGES && other >= 0 && other < MOST_VILLAGES;
             return known ? far[village][other] : NO_WAY;
         }
 
@@ -1283,13 +1270,13 @@ public final class FuneralPost {
         }
 
         int daysOfWay(int village, int other) {
-            boolean known = isOneOf(village, MOST_VILLAGES) && isOneOf(other, MOST_VILLAGES);
+            boolean known = village >= 0 && village < MOST_VILLAGES && other >= 0 && other < MOST_VILLAGES;
             return known ? days[village][other] : 0;
         }
 
         /** Where one goes from a village on the way home; NONE if one is there, or can't come there. */
         int nextOf(int village, int home) {
-            boolean known = isOneOf(village, MOST_VILLAGES) && isOneOf(home, MOST_VILLAGES);
+            boolean known = village >= 0 && village < MOST_VILLAGES && home >= 0 && home < MOST_VILLAGES;
             return known ? next[village][home] : NONE;
         }
 
@@ -1429,7 +1416,8 @@ public final class FuneralPost {
         }
 
         int standsIn(int bier) {
-            return cell(bierState, bier) == STANDING ? bierPlace[bier] : NONE;
+            boolean known = bier >= 0 && bier < MOST_BIERS;
+            return known && bierState[bier] == STANDING ? bierPlace[bier] : NONE;
         }
 
         /** The village in which the letter can be handed on: that of its pile, or of its bier if that stands. */
@@ -1504,7 +1492,7 @@ public final class FuneralPost {
         }
 
         private void comeOutOf(int bier) {
-            if (isOneOf(bier, MOST_BIERS)) {
+            if (bier >= 0 && bier < MOST_BIERS) {
                 bierLoad[bier]--;
             }
         }
