@@ -139,111 +139,92 @@ public final class TapeTest {
         Check.due("fault(1)", x.fault(1), -1);
     }
 
-    private static void fault(String text, int fault, int place) {
-        FuneralPost x = new FuneralPost();
-        Check.due("land() of " + text, Check.land(x, text), -1);
-        Check.due("fault(0) of " + text, x.fault(0), fault);
-        Check.due("fault(1) of " + text, x.fault(1), place);
-    }
-
-    private static void good(String text) {
-        FuneralPost x = new FuneralPost();
-        Check.due("land() of " + text, Check.land(x, text) >= 0, true);
-        Check.due("fault(0) of " + text, x.fault(0), 0);
-    }
-
-    /** The fault is expected at the sign ^, which is no part of the text. */
-    private static void faultAt(int fault, String marked) {
-        int place = marked.indexOf('^');
-        fault(marked.substring(0, place) + marked.substring(place + 1), fault, place);
-    }
-
     private static void tokens() {
-        faultAt(1, "^$");
-        faultAt(1, "^A");
-        faultAt(1, "village a;^\t");
-        faultAt(1, "^\r");
-        faultAt(1, "village ^abcdefghi;");
-        faultAt(1, "^villagesa a;");
-        good("village abcdefgh;");
-        faultAt(1, "wait ^12345;");
-        faultAt(1, "wait ^1a;");
-        faultAt(1, "wait ^9999day;");
-        good("wait 9999;");
-        good("wait 0000;");
-        good("wait 1<2;wait".substring(0, 9));
-        good(TWO + "way a b1;");
-        good(TWO + "way\na\nb\n1\n;\n");
-        good("village a;village\n\nb ; way a b 0009 ;");
-        good(TWO + "bier x from a to b on0;");
-        faultAt(1, TWO + "bier x from a to b on ^0holds 1;");
-        faultAt(1, "village ^\u00e9;");
-        faultAt(1, "wait 1^!2;");
-        good("wait(1)+(2)*day/holds%ways-rest;");
-        faultAt(2, "^12;");
-        faultAt(2, "village ^1;");
-        faultAt(2, "village a^");
-        faultAt(2, "village^");
-        faultAt(2, "village ^;");
+        Texts.faultAt(1, "^$");
+        Texts.faultAt(1, "^A");
+        Texts.faultAt(1, "village a;^\t");
+        Texts.faultAt(1, "^\r");
+        Texts.faultAt(1, "village ^abcdefghi;");
+        Texts.faultAt(1, "^villagesa a;");
+        Texts.good("village abcdefgh;");
+        Texts.faultAt(1, "wait ^12345;");
+        Texts.faultAt(1, "wait ^1a;");
+        Texts.faultAt(1, "wait ^9999day;");
+        Texts.good("wait 9999;");
+        Texts.good("wait 0000;");
+        Texts.good("wait 1<2;wait".substring(0, 9));
+        Texts.good(TWO + "way a b1;");
+        Texts.good(TWO + "way\na\nb\n1\n;\n");
+        Texts.good("village a;village\n\nb ; way a b 0009 ;");
+        Texts.good(TWO + "bier x from a to b on0;");
+        Texts.faultAt(1, TWO + "bier x from a to b on ^0holds 1;");
+        Texts.faultAt(1, "village ^\u00e9;");
+        Texts.faultAt(1, "wait 1^!2;");
+        Texts.good("wait(1)+(2)*day/holds%ways-rest;");
+        Texts.faultAt(2, "^12;");
+        Texts.faultAt(2, "village ^1;");
+        Texts.faultAt(2, "village a^");
+        Texts.faultAt(2, "village^");
+        Texts.faultAt(2, "village ^;");
     }
 
     private static void names() {
         String[] words = {"village", "way", "bier", "letter", "wait", "winter", "from", "to", "on", "holds", "at",
             "by", "worth", "or", "and", "not", "day", "ways", "rest"};
         for (String word : words) {
-            faultAt(2, "village ^" + word + ";");
-            faultAt(2, TWO + "bier ^" + word + " from a to b on 1;");
-            faultAt(2, TWO + "letter ^" + word + " at a to b;");
-            faultAt(2, TWO + "way ^" + word + " b 1;");
+            Texts.faultAt(2, "village ^" + word + ";");
+            Texts.faultAt(2, TWO + "bier ^" + word + " from a to b on 1;");
+            Texts.faultAt(2, TWO + "letter ^" + word + " at a to b;");
+            Texts.faultAt(2, TWO + "way ^" + word + " b 1;");
         }
-        good("village days;village e;village sum;village wayss;village la;");
-        good(TWO + "bier a from a to b on 1;letter a at a to b;");
-        faultAt(3, "village a;village ^a;");
-        faultAt(3, TWO + "bier x from a to b on 1;bier ^x from b to a on 1;");
-        faultAt(3, TWO + "letter x at a to b;letter ^x at a to b;");
-        faultAt(3, TWO + "bier x from a to ^a on 1;");
-        faultAt(3, TWO + "letter x at b to ^b;");
-        faultAt(3, TWO + "way b ^b 1;");
-        faultAt(3, TWO + "way a b 1;way a ^b 1;");
-        faultAt(3, TWO + "way a b 1;way b ^a 10;");
-        faultAt(5, "way ^a b 1;");
-        faultAt(5, "village a;way a ^b 1;village b;");
-        faultAt(5, "village a;way ^b a 1;");
-        faultAt(5, TWO + "bier x from ^x to b on 1;");
-        faultAt(5, TWO + "bier x from a to ^x on 1;");
-        faultAt(5, TWO + "letter x at ^c to b;");
-        faultAt(5, TWO + "letter x at a to ^c;");
+        Texts.good("village days;village e;village sum;village wayss;village la;");
+        Texts.good(TWO + "bier a from a to b on 1;letter a at a to b;");
+        Texts.faultAt(3, "village a;village ^a;");
+        Texts.faultAt(3, TWO + "bier x from a to b on 1;bier ^x from b to a on 1;");
+        Texts.faultAt(3, TWO + "letter x at a to b;letter ^x at a to b;");
+        Texts.faultAt(3, TWO + "bier x from a to ^a on 1;");
+        Texts.faultAt(3, TWO + "letter x at b to ^b;");
+        Texts.faultAt(3, TWO + "way b ^b 1;");
+        Texts.faultAt(3, TWO + "way a b 1;way a ^b 1;");
+        Texts.faultAt(3, TWO + "way a b 1;way b ^a 10;");
+        Texts.faultAt(5, "way ^a b 1;");
+        Texts.faultAt(5, "village a;way a ^b 1;village b;");
+        Texts.faultAt(5, "village a;way ^b a 1;");
+        Texts.faultAt(5, TWO + "bier x from ^x to b on 1;");
+        Texts.faultAt(5, TWO + "bier x from a to ^x on 1;");
+        Texts.faultAt(5, TWO + "letter x at ^c to b;");
+        Texts.faultAt(5, TWO + "letter x at a to ^c;");
     }
 
     private static void numbers() {
-        faultAt(4, TWO + "way a b ^0;");
-        faultAt(4, TWO + "way a b ^10;");
-        good(TWO + "way a b 9;");
-        faultAt(2, TWO + "way a b^;");
-        faultAt(4, TWO + "bier x from a to b on ^61;");
-        good(TWO + "bier x from a to b on 60 holds 9;");
-        faultAt(4, TWO + "bier x from a to b on 60 holds ^0;");
-        faultAt(4, TWO + "bier x from a to b on 60 holds ^10;");
-        faultAt(2, TWO + "bier x from a to b^;");
-        faultAt(2, TWO + "bier x from a to b on 1 ^by 3;");
-        faultAt(4, TWO + "letter x at a to b by ^201;");
-        good(TWO + "letter x at a to b by 200 worth 9;letter y at a to b by 0 worth 1;");
-        faultAt(4, TWO + "letter x at a to b worth ^10;");
-        faultAt(4, TWO + "letter x at a to b by 1 worth ^0;");
-        faultAt(2, TWO + "letter x at a to b worth 1 ^by 1;");
-        faultAt(2, TWO + "letter x at a to b by 1 ^by 1;");
-        faultAt(4, "winter ^201 to 3;");
-        faultAt(4, "winter 1 to ^201;");
-        faultAt(4, "winter 7 to ^6;");
-        good("winter 7 to 7;");
-        good("winter 0 to 200;");
-        faultAt(2, "winter 7 ^8;");
-        faultAt(2, "winter day".replace("day", "^day"));
+        Texts.faultAt(4, TWO + "way a b ^0;");
+        Texts.faultAt(4, TWO + "way a b ^10;");
+        Texts.good(TWO + "way a b 9;");
+        Texts.faultAt(2, TWO + "way a b^;");
+        Texts.faultAt(4, TWO + "bier x from a to b on ^61;");
+        Texts.good(TWO + "bier x from a to b on 60 holds 9;");
+        Texts.faultAt(4, TWO + "bier x from a to b on 60 holds ^0;");
+        Texts.faultAt(4, TWO + "bier x from a to b on 60 holds ^10;");
+        Texts.faultAt(2, TWO + "bier x from a to b^;");
+        Texts.faultAt(2, TWO + "bier x from a to b on 1 ^by 3;");
+        Texts.faultAt(4, TWO + "letter x at a to b by ^201;");
+        Texts.good(TWO + "letter x at a to b by 200 worth 9;letter y at a to b by 0 worth 1;");
+        Texts.faultAt(4, TWO + "letter x at a to b worth ^10;");
+        Texts.faultAt(4, TWO + "letter x at a to b by 1 worth ^0;");
+        Texts.faultAt(2, TWO + "letter x at a to b worth 1 ^by 1;");
+        Texts.faultAt(2, TWO + "letter x at a to b by 1 ^by 1;");
+        Texts.faultAt(4, "winter ^201 to 3;");
+        Texts.faultAt(4, "winter 1 to ^201;");
+        Texts.faultAt(4, "winter 7 to ^6;");
+        Texts.good("winter 7 to 7;");
+        Texts.good("winter 0 to 200;");
+        Texts.faultAt(2, "winter 7 ^8;");
+        Texts.faultAt(2, "winter day".replace("day", "^day"));
     }
 
     private static void tooMany() {
-        good("village a;village b;village c;village d;village e;village f;village g;");
-        faultAt(2, "village a;village b;village c;village d;village e;village f;village g;^village a;");
+        Texts.good("village a;village b;village c;village d;village e;village f;village g;");
+        Texts.faultAt(2, "village a;village b;village c;village d;village e;village f;village g;^village a;");
         String biers = "";
         String letters = "";
         for (char c = 'a'; c <= 'f'; c++) {
@@ -252,9 +233,9 @@ public final class TapeTest {
         for (char c = 'a'; c <= 'h'; c++) {
             letters += "letter " + c + " at a to b;";
         }
-        good(TWO + biers + letters);
-        faultAt(2, TWO + biers + letters + "^bier");
-        faultAt(2, TWO + biers + letters + "^letter $");
+        Texts.good(TWO + biers + letters);
+        Texts.faultAt(2, TWO + biers + letters + "^bier");
+        Texts.faultAt(2, TWO + biers + letters + "^letter $");
         StringBuilder ways = new StringBuilder("village a;village b;village c;village d;village e;village f;");
         int count = 0;
         for (char c = 'a'; c <= 'f'; c++) {
@@ -265,54 +246,54 @@ public final class TapeTest {
                 count++;
             }
         }
-        good(ways.toString());
+        Texts.good(ways.toString());
         FuneralPost x = Check.told(ways.toString());
         Check.due("about(2)", x.about(2), 12);
-        faultAt(2, ways + "^way f e 1;");
-        faultAt(2, "wait 1;^wait 1;");
-        faultAt(2, "winter 1 to 1;^winter 1 to 1;");
-        faultAt(2, "village a;^a;");
-        faultAt(2, "^from;");
-        faultAt(2, THREE + "^;");
+        Texts.faultAt(2, ways + "^way f e 1;");
+        Texts.faultAt(2, "wait 1;^wait 1;");
+        Texts.faultAt(2, "winter 1 to 1;^winter 1 to 1;");
+        Texts.faultAt(2, "village a;^a;");
+        Texts.faultAt(2, "^from;");
+        Texts.faultAt(2, THREE + "^;");
     }
 
     private static void formulas() {
-        faultAt(2, "wait ^;");
-        faultAt(2, "wait^");
-        faultAt(2, "wait 1+^;");
-        faultAt(2, "wait ^+1;");
-        faultAt(2, "wait 1 ^2;");
-        faultAt(2, "wait (1^;");
-        faultAt(2, "wait 1^);");
-        faultAt(2, "wait (^);");
-        faultAt(2, "wait 1<2^<3;");
-        faultAt(2, "wait 1=2^=3;");
-        good("wait (1<2)<3;");
-        good("wait 1<2 and 2>1 or not 3=3;");
-        faultAt(2, "wait 1+^not 1;");
-        faultAt(2, "wait 1<^not 1;");
-        faultAt(2, "wait ^a;");
-        faultAt(2, "wait ^at;");
-        good("wait (((((((1)))))));");
-        faultAt(2, "wait (((((((^(1))))))));");
-        faultAt(2, "wait (((((((not ".replace("not ", "^not ") + "1)))))));");
-        good("wait not not not not not not not 1;");
-        faultAt(2, "wait not not not not not not not ^not 1;");
-        faultAt(2, "wait not not not not not not not ^(1);");
-        good("wait not not not not ( ( ( 1 ) ) );");
-        faultAt(2, "wait not ( not ( not ( not ^( 1))));");
-        good("wait not ( not ( not ( not 1)));");
-        faultAt(2, "wait not ( not ( not ( not ^(1+1))));");
+        Texts.faultAt(2, "wait ^;");
+        Texts.faultAt(2, "wait^");
+        Texts.faultAt(2, "wait 1+^;");
+        Texts.faultAt(2, "wait ^+1;");
+        Texts.faultAt(2, "wait 1 ^2;");
+        Texts.faultAt(2, "wait (1^;");
+        Texts.faultAt(2, "wait 1^);");
+        Texts.faultAt(2, "wait (^);");
+        Texts.faultAt(2, "wait 1<2^<3;");
+        Texts.faultAt(2, "wait 1=2^=3;");
+        Texts.good("wait (1<2)<3;");
+        Texts.good("wait 1<2 and 2>1 or not 3=3;");
+        Texts.faultAt(2, "wait 1+^not 1;");
+        Texts.faultAt(2, "wait 1<^not 1;");
+        Texts.faultAt(2, "wait ^a;");
+        Texts.faultAt(2, "wait ^at;");
+        Texts.good("wait (((((((1)))))));");
+        Texts.faultAt(2, "wait (((((((^(1))))))));");
+        Texts.faultAt(2, "wait (((((((not ".replace("not ", "^not ") + "1)))))));");
+        Texts.good("wait not not not not not not not 1;");
+        Texts.faultAt(2, "wait not not not not not not not ^not 1;");
+        Texts.faultAt(2, "wait not not not not not not not ^(1);");
+        Texts.good("wait not not not not ( ( ( 1 ) ) );");
+        Texts.faultAt(2, "wait not ( not ( not ( not ^( 1))));");
+        Texts.good("wait not ( not ( not ( not 1)));");
+        Texts.faultAt(2, "wait not ( not ( not ( not ^(1+1))));");
         StringBuilder sum = new StringBuilder("wait 1");
         for (int i = 1; i < 30; i++) {
             sum.append("+1");
         }
-        good(sum + ";");
+        Texts.good(sum + ";");
         Check.due("about(12)", Check.told(sum + ";").about(12), 30);
-        faultAt(2, sum + "+^1;");
-        faultAt(1, sum + "+^$;");
+        Texts.faultAt(2, sum + "+^1;");
+        Texts.faultAt(1, sum + "+^$;");
         /* ( e ) is a unit, too. */
-        faultAt(2, sum.toString().replace("wait 1", "wait (1)") .replaceAll("1$", "^1") + ";");
+        Texts.faultAt(2, sum.toString().replace("wait 1", "wait (1)") .replaceAll("1$", "^1") + ";");
         Check.due("about(12)", Check.told("wait (1)+(2);").about(12), 4);
         Check.due("about(12)", Check.told("wait not not 7;").about(12), 1);
         Check.due("about(12)", Check.told("village a;").about(12), 0);
