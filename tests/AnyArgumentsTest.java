@@ -109,7 +109,7 @@ public final class AnyArgumentsTest {
             if (seed % 4 != 0) {
                 Check.land(x, RandomLand.of(r).text(r));
             }
-            for (int i = 0; i < 500; i++) {
+            for (int i = 0; i < 440; i++) {
                 call(x, r);
             }
         }

@@ -454,26 +454,21 @@ public final class DayBoundsTest {
 
     /* "UNDO takes back the latest ACT that was not, REDO does that again": each kind of ACT. */
     private static void eachActIsUndone() {
-        String[] states = new String[8];
         FuneralPost x = Check.told(ACTS);
-        states[0] = Whole.state(x);
+        String first = Whole.state(x);
         Check.due("day", x.day(), 0);
-        states[1] = Whole.state(x);
         Check.due("post", x.post(2, 0), 2);
-        states[2] = Whole.state(x);
         Check.due("hand", x.hand(1, 1), true);
-        states[3] = Whole.state(x);
+        String third = Whole.state(x);
         FuneralPost y = Check.told(ACTS);
         y.day();
         y.post(2, 0);
         y.hand(1, 1);
         Check.due("take", y.take(0), 0);
-        states[4] = Whole.state(y);
+        String fourth = Whole.state(y);
         Check.due("close", y.close(1), 1);
-        states[5] = Whole.state(y);
         Check.due("open", y.close(1), 0);
-        states[6] = Whole.state(y);
-        Check.due("an open way is as it was", states[6].equals(states[4]), true);
+        Check.due("an open way is as it was", Whole.state(y).equals(fourth), true);
         FuneralPost z = Check.told(ACTS);
         z.day();
         z.post(2, 0);
@@ -485,13 +480,13 @@ public final class DayBoundsTest {
             Check.due("about(7)", z.about(7), step);
             Check.due("about(8)", z.about(8), 3 - step);
         }
-        Check.due("undone", Whole.state(z).equals(states[0]), true);
+        Check.due("undone", Whole.state(z).equals(first), true);
         Check.due("redo", z.redo(), true);
         Check.due("redone", z.about(4), 1);
         Check.due("redo", z.redo(), true);
         Check.due("redo", z.redo(), true);
         Check.due("redo of none", z.redo(), false);
-        Check.due("redone", Whole.state(z).equals(states[3]), true);
+        Check.due("redone", Whole.state(z).equals(third), true);
         for (int i = 0; i < 2; i++) {
             Check.due("undo open", y.undo(), true);
             Check.due("closed again", y.about(5), 2);
@@ -508,7 +503,7 @@ public final class DayBoundsTest {
             }
             Check.due("redo of none", y.redo(), false);
         }
-        Check.due("all again", Whole.state(y).equals(states[6]), true);
+        Check.due("all again", Whole.state(y).equals(fourth), true);
     }
 
     /* "(till another ACT)": each kind of ACT ends what could be done again. */

@@ -12,6 +12,8 @@ public final class ModelTest {
     private static List<Model.Hint> hints;
     private static int time;
     private static String label;
+    /* Nothing is promised behind the 512th call of an object. */
+    private static int calls;
 
     private static int bits(boolean[] set) {
         int bits = 0;
@@ -26,38 +28,69 @@ public final class ModelTest {
     }
 
     private static void due(String call, long got, long want) {
+        calls++;
         Check.due(label + call, got, want);
+    }
+
+    private static void due(String call, boolean got, boolean want) {
+        due(call, got ? 1 : 0, want ? 1 : 0);
     }
 
     private static void compareState() {
         for (int b = 0; b < m.biers.size(); b++) {
-            Model.Bier bier = m.biers.get(b);
-            int state = state(bier);
-            int rest = 0;
-            for (int v : m.rest(bier.village, m.told.get(b).home())) {
-                rest |= 1 << v;
-            }
-            due("bier(" + b + ", 0)", x.bier(b, 0), state);
-            due("bier(" + b + ", 1)", x.bier(b, 1), bier.village);
-            due("bier(" + b + ", 2)", x.bier(b, 2), state == 1 || state == 2 ? bier.when : -1);
-            due("bier(" + b + ", 3)", x.bier(b, 3), m.load(b));
-            due("bier(" + b + ", 4)", x.bier(b, 4), m.told.get(b).home());
-            due("bier(" + b + ", 5)", x.bier(b, 5), state == 1 ? rest : 0);
+            compareBier(b);
         }
+        for (int i = 0; i < m.letters.size(); i++) {
+            compareLetter(i);
+        }
+        for (int what = 0; what < 12; what++) {
+            compareAbout(what);
+        }
+    }
+
+    private static void compareSome(Random r) {
+        if (!m.biers.isEmpty()) {
+            compareBier(r.nextInt(m.biers.size()));
+        }
+        if (!m.letters.isEmpty()) {
+            compareLetter(r.nextInt(m.letters.size()));
+        }
+        compareAbout(r.nextInt(12));
+        compareAbout(7);
+        compareAbout(8);
+    }
+
+    private static void compareBier(int b) {
+        Model.Bier bier = m.biers.get(b);
+        int state = state(bier);
+        int rest = 0;
+        for (int v : m.rest(bier.village, m.told.get(b).home())) {
+            rest |= 1 << v;
+        }
+        due("bier(" + b + ", 0)", x.bier(b, 0), state);
+        due("bier(" + b + ", 1)", x.bier(b, 1), bier.village);
+        due("bier(" + b + ", 2)", x.bier(b, 2), state == 1 || state == 2 ? bier.when : -1);
+        due("bier(" + b + ", 3)", x.bier(b, 3), m.load(b));
+        due("bier(" + b + ", 4)", x.bier(b, 4), m.told.get(b).home());
+        due("bier(" + b + ", 5)", x.bier(b, 5), state == 1 ? rest : 0);
+    }
+
+    private static void compareLetter(int i) {
+        Model.Letter l = m.letters.get(i);
+        int[] want = {l.pile, l.bier, l.home, l.goal, l.last, l.worth, l.handed};
+        for (int what = 0; what < want.length; what++) {
+            due("letter(" + i + ", " + what + ")", x.letter(i, what), want[what]);
+        }
+    }
+
+    private static void compareAbout(int what) {
         int home = 0;
         for (int i = 0; i < m.letters.size(); i++) {
-            Model.Letter l = m.letters.get(i);
-            int[] want = {l.pile, l.bier, l.home, l.goal, l.last, l.worth, l.handed};
-            for (int what = 0; what < want.length; what++) {
-                due("letter(" + i + ", " + what + ")", x.letter(i, what), want[what]);
-            }
-            home |= l.home >= 0 ? 1 << i : 0;
+            home |= m.letters.get(i).home >= 0 ? 1 << i : 0;
         }
         int[] about = {m.letters.size(), m.villages, m.ways.size(), m.biers.size(), m.day, bits(m.closed), home,
             past.size(), undone.size(), hints.size(), time, 0};
-        for (int what = 0; what < about.length; what++) {
-            due("about(" + what + ")", x.about(what), about[what]);
-        }
+        due("about(" + what + ")", x.about(what), about[what]);
     }
 
     private static void act() {
@@ -91,7 +124,7 @@ public final class ModelTest {
                     m.letters.get(i).bier = b;
                     m.letters.get(i).handed++;
                 }
-                Check.due(label + "hand", x.hand(i, b), can);
+                due("hand", x.hand(i, b), can);
                 break;
             }
             case 2: {
@@ -119,7 +152,7 @@ public final class ModelTest {
             }
             case 4: {
                 boolean can = !past.isEmpty();
-                Check.due(label + "undo", x.undo(), can);
+                due("undo", x.undo(), can);
                 if (can) {
                     undone.add(m);
                     m = past.remove(past.size() - 1);
@@ -128,7 +161,7 @@ public final class ModelTest {
             }
             case 5: {
                 boolean can = !undone.isEmpty();
-                Check.due(label + "redo", x.redo(), can);
+                due("redo", x.redo(), can);
                 if (can) {
                     past.add(m);
                     m = undone.remove(undone.size() - 1);
@@ -257,7 +290,7 @@ public final class ModelTest {
         } else {
             int i = r.nextInt(30);
             boolean can = i < hints.size() && hints.get(i).untold()[0] < 0;
-            Check.due(label + "untell", x.untell(i), can);
+            due("untell", x.untell(i), can);
             if (can) {
                 hints.get(i).untold()[0] = time;
             }
@@ -269,7 +302,7 @@ public final class ModelTest {
 
     /** Ways are closed till the last day is near: then biers are still on their ways on it. */
     private static void waitLong(Random r) {
-        int days = 250 + r.nextInt(60);
+        int days = 280 + r.nextInt(22);
         for (int w = 0; w < m.ways.size(); w++) {
             act();
             m.closed[w] = true;
@@ -288,7 +321,6 @@ public final class ModelTest {
             m.closed[w] = false;
             due("close", x.close(w), 0);
         }
-        compareState();
     }
 
     private static void run(int seed) {
@@ -303,19 +335,22 @@ public final class ModelTest {
         label = "seed " + seed + " " + text + "\n  ";
         x = new FuneralPost();
         Check.due(label + "land", Check.land(x, text), m.toldLetters.size());
-        compareState();
+        calls = text.length() / 20 + 8;
         if (seed % 8 == 0) {
             waitLong(r);
         }
-        for (int i = 0; i < 25; i++) {
+        while (calls < (seed % 8 == 0 ? 440 : 340)) {
             doOne(r);
-            compareState();
+            compareSome(r);
             askOne(r);
+        }
+        if (seed % 8 != 0) {
+            compareState();
         }
     }
 
     public static void main(String[] args) {
-        int runs = args.length > 0 ? Integer.parseInt(args[0]) : 400;
+        int runs = args.length > 0 ? Integer.parseInt(args[0]) : 1200;
         for (int seed = 0; seed < runs; seed++) {
             run(seed);
         }

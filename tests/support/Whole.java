@@ -20,19 +20,19 @@ public final class Whole {
             s.append(' ').append(x.about(what));
         }
         s.append(' ').append(x.about(12));
-        for (int b = 0; b < 6; b++) {
+        for (int b = 0; b < x.about(3); b++) {
             s.append("\nbier ").append(b);
             for (int what = 0; what <= 5; what++) {
                 s.append(' ').append(x.bier(b, what));
             }
         }
-        for (int i = 0; i < 10; i++) {
+        for (int i = 0; i < x.about(0); i++) {
             s.append("\nletter ").append(i);
             for (int what = 0; what <= 6; what++) {
                 s.append(' ').append(x.letter(i, what));
             }
         }
-        for (int v = 0; v < 7; v++) {
+        for (int v = 0; v < x.about(1); v++) {
             s.append("\nvillage ").append(v);
             for (int what = 0; what <= 2; what++) {
                 s.append(' ').append(x.village(v, what));
@@ -49,7 +49,7 @@ public final class Whole {
         StringBuilder s = new StringBuilder("\nlore ");
         s.append(x.about(9)).append(' ').append(x.about(10));
         for (int k : new int[] {0, x.about(10), 200000}) {
-            for (int goal = 0; goal < 7; goal++) {
+            for (int goal = 0; goal < x.about(1); goal++) {
                 s.append(' ').append(x.fit(goal, k));
             }
         }
